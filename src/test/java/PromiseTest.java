@@ -552,6 +552,14 @@ public final class PromiseTest {
         for (int k : new int[] {Integer.MIN_VALUE, -1, 1, 14, Integer.MAX_VALUE}) {
             same("way(5, " + k + ")", heap.way(5, k), NONE);
         }
+        SlidingHeap beyond = heapOf(2, 1, 1, 0);
+        repeat(3, beyond::pop);
+        beyond.refer(1, 0, 2, true);
+        beyond.refer(1, 1, 3, false);
+        beyond.refer(2, 0, 4, false);
+        beyond.refer(3, 0, 4, false);
+        row("not over a weak one, though it is less", k -> beyond.way(4, k), 1, 3, 4);
+        row("it ends with the object, though that leads on", k -> beyond.way(3, k), 1, 3);
         SlidingHeap chain = new SlidingHeap();
         longChain(chain);
         row("through all objects", k -> chain.way(14, k), 1, 2, 3, 4, 5, 6, 7, 8, 9, 10, 11, 12, 13, 14);
@@ -589,7 +597,7 @@ public final class PromiseTest {
         used.alloc(4);
         used.refer(5, 0, 4, true);
         used.refer(5, 1, 5, false);
-        used.rites(5, true);
+        used.rites(1, true);
         used.clear();
         same("of a used heap", snapshot(used), snapshot(new SlidingHeap()));
         used.alloc(4);
