@@ -1,781 +1,1036 @@
-import java.util.ArrayList;
-import java.util.Arrays;
 import java.util.List;
 
-/** One method a promise: ordinary inputs, the edges that the document names, and wrong inputs. */
-public final class PromiseTest {
-    private interface Steps {
-        void on(SlidingHeap heap);
-    }
-
-    private interface Call {
-        int on(SlidingHeap heap);
-    }
-
-    private static final int NONE = SlidingHeap.NONE;
-    private static final Steps NOTHING = heap -> { };
-    private static final int[] STRANGE = {Integer.MIN_VALUE, -2, -1, 0, 15, 16, 90, Integer.MAX_VALUE};
-
-    private static String promise = "";
-    private static int wrong = 0;
+/** One test for each sentence of the promises: ordinary inputs, the edges that it names, and wrong inputs. */
+public final class PromiseTest extends HeapChecks {
+    private static final int[] NO_PLACES = {MIN, -2, -1, 14, 90, MAX};
 
     public static void main(String[] args) {
-        newObject();
-        alloc();
-        allocCollects();
-        allocRefuses();
-        number();
-        refer();
-        get();
-        kind();
-        push();
-        pop();
-        root();
-        rites();
-        take();
-        queued();
-        collectSlides();
-        collectCutsWeakSlots();
-        collectGivesRites();
-        collectAges();
-        word();
-        about();
-        far();
-        way();
-        count();
-        clear();
-        System.out.println(wrong == 0 ? "all promises hold" : wrong + " answers are not as due");
-        if (wrong != 0) {
-            System.exit(1);
-        }
+        sentence("1 a new object: No objects, no roots, an empty queue", PromiseTest::newObject);
+        sentence("1 a new object: it has nothing of another one", PromiseTest::newObjectIsItsOwn);
+        sentence("2 alloc: A new object at the top", PromiseTest::allocAtTop);
+        sentence("2 alloc: with the least free handle", PromiseTest::allocLeastHandle);
+        sentence("2 alloc: numbers 0 in its slots", PromiseTest::allocNumbers);
+        sentence("2 alloc: and without rites", PromiseTest::allocWithoutRites);
+        sentence("2 alloc: it comes to the end of the roots; answers its handle", PromiseTest::allocIsRoot);
+        sentence("2 alloc: When there is no handle it collects first", PromiseTest::allocCollectsForHandle);
+        sentence("2 alloc: When there are not as many words it collects first", PromiseTest::allocCollectsForWords);
+        sentence("2 alloc: it collects first, with all that belongs to it", PromiseTest::allocCollectsWholly);
+        sentence("2 alloc: IllegalArgumentException when slots is not 0 .. 10", PromiseTest::allocWrongSlots);
+        sentence("2 alloc: IllegalStateException when there are 10 roots", PromiseTest::allocTenRoots);
+        sentence("2 alloc: UnsupportedOperationException when there would be no handle", PromiseTest::allocNoHandle);
+        sentence("2 alloc: UnsupportedOperationException, or not as many words", PromiseTest::allocNoWords);
+        sentence("3 number: A slot becomes a number", PromiseTest::number);
+        sentence("3 number: IndexOutOfBoundsException when there is no such object or slot",
+            () -> refusesNoSlot((heap, handle, slot) -> heap.number(handle, slot, 5)));
+        sentence("4 refer: A slot becomes a reference, weak or not", PromiseTest::refer);
+        sentence("4 refer: IndexOutOfBoundsException when there is no such object or slot",
+            () -> refusesNoSlot((heap, handle, slot) -> heap.refer(handle, slot, 0, true)));
+        sentence("4 refer: IllegalArgumentException when target is neither 0 nor an object",
+            PromiseTest::referNoTarget);
+        sentence("5 get: The value of a slot", PromiseTest::get);
+        sentence("5 get: IndexOutOfBoundsException when there is no such object or slot",
+            () -> refusesNoSlot((heap, handle, slot) -> heap.get(handle, slot)));
+        sentence("6 kind: 0 a number, 1 a reference, 2 a weak one", PromiseTest::kind);
+        sentence("6 kind: IndexOutOfBoundsException when there is no such object or slot",
+            () -> refusesNoSlot((heap, handle, slot) -> heap.kind(handle, slot)));
+        sentence("7 push: An object comes to the end of the roots; answers how many there are", PromiseTest::push);
+        sentence("7 push: IndexOutOfBoundsException when there is no such object",
+            () -> refusesNoObject((heap, handle) -> heap.push(handle)));
+        sentence("7 push: IllegalStateException when there are 10", PromiseTest::pushTenRoots);
+        sentence("8 pop: The last root goes; answers its handle", PromiseTest::pop);
+        sentence("8 pop: NONE when there is none", PromiseTest::popNone);
+        sentence("9 root: The i-th root (from 0)", PromiseTest::root);
+        sentence("9 root: NONE when there is none", PromiseTest::rootNone);
+        sentence("10 rites: An object has rites, or not any more", PromiseTest::rites);
+        sentence("10 rites: IndexOutOfBoundsException when there is no such object", PromiseTest::ritesNoObject);
+        sentence("11 take: The first of the queue comes to the end of the roots", PromiseTest::take);
+        sentence("11 take: NONE when there is none", PromiseTest::takeNone);
+        sentence("11 take: IllegalStateException when there is one, and there are 10 roots",
+            PromiseTest::takeTenRoots);
+        sentence("12 queued: The i-th of the queue (from 0)", PromiseTest::queued);
+        sentence("12 queued: NONE when there is none", PromiseTest::queuedNone);
+        sentence("13 collect: answers by how many words the top came down", PromiseTest::collect);
+        sentence("14 word: Word i of the heap", PromiseTest::word);
+        sentence("14 word: IndexOutOfBoundsException when there is none", PromiseTest::wordNone);
+        sentence("15 about: 0 where its first word is", PromiseTest::aboutPlace);
+        sentence("15 about: 1 how many slots", PromiseTest::aboutSlots);
+        sentence("15 about: 2 its age", PromiseTest::aboutAge);
+        sentence("15 about: 3 whether it has rites (1 or 0)", PromiseTest::aboutRites);
+        sentence("15 about: 4 whether it is live (1 or 0)", PromiseTest::aboutLive);
+        sentence("15 about: 5 how many slots of objects have it as their value", PromiseTest::aboutShown);
+        sentence("15 about: IndexOutOfBoundsException when there is no such object", PromiseTest::aboutNoObject);
+        sentence("15 about: IllegalArgumentException when what is none of these", PromiseTest::aboutWrongWhat);
+        sentence("16 far: How many references there are on a shortest way", PromiseTest::far);
+        sentence("16 far: from some root or one of the queue", PromiseTest::farFromNearest);
+        sentence("16 far: references (not weak)", PromiseTest::farNotWeak);
+        sentence("16 far: NONE when there is no way", PromiseTest::farNone);
+        sentence("16 far: IndexOutOfBoundsException when there is no such object",
+            () -> refusesNoObject((heap, handle) -> heap.far(handle)));
+        sentence("17 way: Object k (from 0) of a shortest way, the root first, itself last", PromiseTest::way);
+        sentence("17 way: the one with the least root", PromiseTest::wayLeastRoot);
+        sentence("17 way: then the least second one, and so on", PromiseTest::wayLeastNext);
+        sentence("17 way: NONE when there is none", PromiseTest::wayNone);
+        sentence("17 way: IndexOutOfBoundsException when there is no such object", PromiseTest::wayNoObject);
+        sentence("18 count: 0 objects, 1 live ones", PromiseTest::countObjects);
+        sentence("18 count: 2 words in use, 3 words of live ones", PromiseTest::countWords);
+        sentence("18 count: 4 roots, 5 in the queue", PromiseTest::countRows);
+        sentence("18 count: 6 collections up to now", PromiseTest::countCollections);
+        sentence("18 count: also those before objects were made", PromiseTest::countCollectionsOfAlloc);
+        sentence("18 count: IllegalArgumentException when what is none of these", PromiseTest::countWrongWhat);
+        sentence("19 clear: Empties everything, as at first", PromiseTest::clear);
+        sentence("19 clear: what comes behind it is as at first", PromiseTest::clearedIsNew);
+        finish();
     }
 
     private static void newObject() {
-        promise = "1 a new object";
         SlidingHeap heap = new SlidingHeap();
         for (int what = 0; what <= 6; what++) {
             same("count(" + what + ")", heap.count(what), 0);
         }
         row("roots", heap::root);
         row("queue", heap::queued);
-        for (int i = 0; i < 90; i++) {
-            same("word(" + i + ")", heap.word(i), 0);
+        for (int handle = 0; handle <= 15; handle++) {
+            same("object " + handle, isNone(heap, handle), true);
         }
-        SlidingHeap other = new SlidingHeap();
-        heap.alloc(3);
-        same("objects of another heap", other.count(0), 0);
+        same("pop()", heap.pop(), NONE);
+        same("take()", heap.take(), NONE);
+        same("collect()", heap.collect(), 0);
     }
 
-    private static void alloc() {
-        promise = "2 alloc";
-        SlidingHeap heap = new SlidingHeap();
-        same("alloc(0)", heap.alloc(0), 1);
-        same("alloc(10)", heap.alloc(10), 2);
-        same("alloc(3)", heap.alloc(3), 3);
-        row("roots", heap::root, 1, 2, 3);
-        row("starts", i -> i < 3 ? heap.about(i + 1, 0) : NONE, 0, 2, 14);
-        row("slots", i -> i < 3 ? heap.about(i + 1, 1) : NONE, 0, 10, 3);
-        same("words in use", heap.count(2), 19);
+    private static void newObjectIsItsOwn() {
+        List<String> alone = look(heapAfter(HeapChecks::busy));
+        SlidingHeap empty = new SlidingHeap();
+        SlidingHeap busy = heapAfter(HeapChecks::busy);
+        SlidingHeap chain = heapAfter(HeapChecks::fourteenLive);
+        heapAfter(HeapChecks::threeQueued).take();
+        sameLook("beside others", look(busy), alone);
+        sameLook("made before others", look(empty), look(new SlidingHeap()));
+        Steps collected = heap -> {
+            busy(heap);
+            heap.pop();
+            heap.collect();
+        };
+        List<String> collectedAlone = look(heapAfter(collected));
+        SlidingHeap again = heapAfter(HeapChecks::busy);
+        fourteenLive(empty);
+        again.pop();
+        again.collect();
+        chain.clear();
+        sameLook("collected beside others", look(again), collectedAlone);
+    }
+
+    private static void allocAtTop() {
+        SlidingHeap heap = heapOf(0, 10, 3);
+        row("places", i -> i < 3 ? heap.about(i + 1, 0) : NONE, 0, 2, 14);
+        same("top", heap.count(2), 19);
+        heap.pop();
+        heap.alloc(1);
+        same("behind one that is lost", heap.about(4, 0), 19);
+        heap.collect();
+        heap.alloc(1);
+        same("where it is when that one is gone", heap.about(3, 0), 17);
+        SlidingHeap last = heapOf(10, 10, 10, 10, 10, 10, 10);
+        last.alloc(4);
+        same("in the last words", last.about(8, 0), 84);
+        same("top", last.count(2), 90);
+        SlidingHeap least = heapOf(10, 10, 10, 10, 10, 10, 10, 2);
+        least.alloc(0);
+        same("in the last two words", least.about(9, 0), 88);
+        same("its handle", least.word(89), 9);
+    }
+
+    private static void allocLeastHandle() {
+        SlidingHeap heap = heapOf(0, 0, 0, 0, 0, 0);
+        popAll(heap);
+        same("not one that is lost, but not gone", heap.alloc(0), 7);
+        popAll(heap);
+        heap.push(1);
+        heap.push(4);
+        heap.push(7);
+        heap.collect();
+        row("the gaps, then behind them", i -> i < 6 ? heap.alloc(0) : NONE, 2, 3, 5, 6, 8, 9);
+        SlidingHeap last = heapAfter(HeapChecks::fourteenLive);
+        last.refer(13, 0, 0, false);
+        last.collect();
+        same("only the last is free", last.alloc(0), 14);
+        SlidingHeap first = heapAfter(HeapChecks::fourteenLive);
+        first.pop();
+        first.push(2);
+        first.refer(14, 0, 0, false);
+        first.collect();
+        same("only the first is free", first.alloc(0), 1);
+    }
+
+    private static void allocNumbers() {
+        SlidingHeap heap = heapOf(10, 10);
         for (int slot = 0; slot < 10; slot++) {
-            same("kind of slot " + slot, heap.kind(2, slot), 0);
-            same("value of slot " + slot, heap.get(2, slot), 0);
+            heap.refer(1, slot, slot % 3 == 0 ? 0 : 1, slot % 2 == 0);
+            heap.number(2, slot, -1);
         }
-        same("rites", heap.about(3, 3), 0);
-        same("age", heap.about(3, 2), 0);
+        popAll(heap);
+        heap.collect();
+        heap.alloc(10);
+        heap.alloc(10);
+        for (int slot = 0; slot < 10; slot++) {
+            for (int handle = 1; handle <= 2; handle++) {
+                same("kind where others were", heap.kind(handle, slot), 0);
+                same("value where others were", heap.get(handle, slot), 0);
+            }
+        }
+        SlidingHeap full = heapAfter(HeapChecks::ninetyWords);
+        for (int slot = 0; slot < 4; slot++) {
+            full.refer(8, slot, 8, slot % 2 == 0);
+        }
+        full.pop();
+        same("alloc that collects", full.alloc(4), 8);
+        for (int slot = 0; slot < 4; slot++) {
+            same("kind behind collecting", full.kind(8, slot), 0);
+            same("value behind collecting", full.get(8, slot), 0);
+        }
     }
 
-    private static void allocCollects() {
-        promise = "2 alloc, collecting";
-        SlidingHeap words = heapOf(10, 10, 10, 10, 10, 10, 10);
-        same("words in use", words.count(2), 84);
-        words.rites(7, true);
-        words.number(7, 0, 9);
-        words.refer(7, 1, 7, false);
-        words.pop();
-        same("alloc(4) fills the last word", words.alloc(4), 8);
-        same("no collection was needed", words.count(6), 0);
-        words.rites(7, false);
-        same("alloc(10) takes the lost one's handle", words.alloc(10), 7);
-        same("collections", words.count(6), 1);
-        same("the new one's start", words.about(7, 0), 78);
-        same("the new one's age", words.about(7, 2), 0);
-        same("an old one's age", words.about(1, 2), 1);
-        same("the new one's rites", words.about(7, 3), 0);
-        same("the new one's slot 0", words.get(7, 0), 0);
-        same("the new one's slot 1", words.kind(7, 1), 0);
-
-        SlidingHeap handles = heapOf(0, 0, 0, 0, 0, 0, 0);
-        repeat(7, handles::pop);
-        for (int handle = 8; handle <= 14; handle++) {
-            same("alloc(0)", handles.alloc(0), handle);
-        }
-        same("no collection was needed", handles.count(6), 0);
-        same("alloc(0) without a free handle", handles.alloc(0), 1);
-        same("collections", handles.count(6), 1);
-        same("objects", handles.count(0), 8);
-        same("start", handles.about(1, 0), 14);
+    private static void allocWithoutRites() {
+        SlidingHeap heap = heapOf(0);
+        same("at first", heap.about(1, 3), 0);
+        heap.rites(1, true);
+        heap.clear();
+        heap.alloc(0);
+        same("where one with rites was cleared away", heap.about(1, 3), 0);
+        heap.rites(1, true);
+        heap.pop();
+        heap.collect();
+        heap.take();
+        heap.pop();
+        heap.collect();
+        same("alloc", heap.alloc(0), 1);
+        same("where one that had rites is gone", heap.about(1, 3), 0);
     }
 
-    private static void allocRefuses() {
-        promise = "2 alloc, wrong inputs";
-        for (int slots : new int[] {Integer.MIN_VALUE, -1, 11, Integer.MAX_VALUE}) {
-            refuses(IllegalArgumentException.class, NOTHING, heap -> heap.alloc(slots));
-            refuses(IllegalArgumentException.class, PromiseTest::tenRoots, heap -> heap.alloc(slots));
-        }
-        refuses(IllegalStateException.class, PromiseTest::tenRoots, heap -> heap.alloc(0));
-        refuses(IllegalStateException.class, heap -> {
-            fill(heap, 7, 7, 7, 7, 7, 7, 7, 7, 7, 7);
-        }, heap -> heap.alloc(0));
+    private static void allocIsRoot() {
+        SlidingHeap heap = heapOf(0, 0);
+        heap.push(1);
+        same("its handle", heap.alloc(5), 3);
+        row("roots", heap::root, 1, 2, 1, 3);
+        repeat(5, () -> heap.push(2));
+        same("as the tenth root", heap.alloc(0), 4);
+        same("the tenth root", heap.root(9), 4);
+        SlidingHeap full = heapAfter(HeapChecks::ninetyWords);
+        full.pop();
+        full.push(3);
+        same("behind collecting", full.alloc(4), 8);
+        row("roots behind collecting", full::root, 1, 2, 3, 4, 5, 6, 7, 3, 8);
+    }
 
-        Steps noWords = heap -> fill(heap, 10, 10, 10, 10, 10, 10, 10);
-        refuses(UnsupportedOperationException.class, noWords, heap -> heap.alloc(5));
-        Steps someWords = heap -> {
-            noWords.on(heap);
-            heap.alloc(4);
-            heap.pop();
-        };
-        refuses(UnsupportedOperationException.class, someWords, heap -> heap.alloc(5));
-        Steps heldByRites = heap -> {
-            noWords.on(heap);
-            heap.refer(7, 0, 6, false);
-            heap.refer(1, 0, 7, true);
-            heap.rites(7, true);
-            heap.pop();
-            heap.pop();
-        };
-        refuses(UnsupportedOperationException.class, heldByRites, heap -> heap.alloc(5));
+    private static void allocCollectsForHandle() {
         SlidingHeap heap = new SlidingHeap();
-        heldByRites.on(heap);
-        same("alloc(4) beside those with rites", heap.alloc(4), 8);
-        same("nothing is collected when it fits", heap.count(6), 0);
+        allLost(heap, 13, 0);
+        same("the fourteenth needs none", heap.alloc(0), 14);
+        same("collections", heap.count(6), 0);
+        same("the fifteenth takes the least that is free then", heap.alloc(0), 1);
+        same("collections", heap.count(6), 1);
+        same("objects", heap.count(0), 2);
+        same("the older one's place", heap.about(14, 0), 0);
+        same("its place", heap.about(1, 0), 2);
+        SlidingHeap one = heapAfter(HeapChecks::fourteenLive);
+        one.refer(13, 0, 0, false);
+        same("one is lost", one.alloc(1), 14);
+        same("objects", one.count(0), 14);
+    }
 
-        Steps noHandle = PromiseTest::fourteenInUse;
-        refuses(UnsupportedOperationException.class, noHandle, h -> h.alloc(0));
+    private static void allocCollectsForWords() {
+        for (int slots = 0; slots <= 10; slots++) {
+            SlidingHeap fits = heapAfter(fillsUpTo(90 - slots - 2));
+            same("just as many words", fits.alloc(slots), 10);
+            same("no collection is needed", fits.count(6), 0);
+            same("top", fits.count(2), 90);
+            SlidingHeap collects = heapAfter(fillsUpTo(90 - slots - 1));
+            same("one word too few", collects.alloc(slots), 1);
+            same("a collection is needed", collects.count(6), 1);
+            same("its place", collects.about(1, 0), 0);
+        }
+        SlidingHeap full = heapAfter(HeapChecks::ninetyWords);
+        full.pop();
+        same("without any word", full.alloc(0), 8);
+        same("collections", full.count(6), 1);
+        same("its place", full.about(8, 0), 84);
+    }
+
+    // Nine objects, all lost, with as many words in use as are asked for: 29 at least.
+    private static Steps fillsUpTo(int words) {
+        return heap -> {
+            int left = words - 9 * 2;
+            for (int i = 0; i < 9; i++) {
+                int slots = Math.min(10, left);
+                left -= slots;
+                heap.alloc(slots);
+                heap.pop();
+            }
+        };
+    }
+
+    private static void allocCollectsWholly() {
+        SlidingHeap heap = heapOf(10, 10, 10, 10, 10, 10, 3, 0, 3);
+        heap.refer(1, 0, 8, true);
+        heap.refer(1, 1, 9, true);
+        heap.rites(8, true);
+        repeat(3, heap::pop);
+        heap.push(7);
+        same("words in use", heap.count(2), 84);
+        same("alloc", heap.alloc(6), 9);
+        row("queue", heap::queued, 8);
+        same("rites are spent", heap.about(8, 3), 0);
+        same("a weak slot with one that came to the queue", heap.get(1, 0), 0);
+        same("a weak slot with one that is gone", heap.get(1, 1), 0);
+        same("age", heap.about(7, 2), 1);
+        same("place", heap.about(9, 0), 79);
+        same("words in use", heap.count(2), 87);
+    }
+
+    private static void allocWrongSlots() {
+        for (int slots : new int[] {MIN, -2, -1, 11, 12, 88, MAX - 1, MAX}) {
+            refuses(ARGUMENT, NEW, heap -> heap.alloc(slots));
+            refuses(ARGUMENT, HeapChecks::busy, heap -> heap.alloc(slots));
+        }
+        same("alloc(0)", new SlidingHeap().alloc(0), 1);
+        same("alloc(10)", new SlidingHeap().alloc(10), 1);
+    }
+
+    private static void allocTenRoots() {
+        SlidingHeap heap = heapOf(0);
+        repeat(8, () -> heap.push(1));
+        same("with nine roots", heap.alloc(0), 2);
+        for (int slots : new int[] {0, 10}) {
+            refuses(STATE, HeapChecks::tenRoots, h -> h.alloc(slots));
+            refuses(STATE, HeapChecks::busyWithTenRoots, h -> h.alloc(slots));
+        }
+        refuses(STATE, h -> fill(h, 7, 7, 7, 7, 7, 7, 7, 7, 7, 7), h -> h.alloc(0));
+    }
+
+    private static void allocNoHandle() {
+        refuses(UNSUPPORTED, HeapChecks::fourteenLive, heap -> heap.alloc(0));
+        refuses(UNSUPPORTED, HeapChecks::fourteenWithRites, heap -> heap.alloc(0));
+        refuses(UNSUPPORTED, heap -> {
+            fourteenWithRites(heap);
+            heap.collect();
+        }, heap -> heap.alloc(0));
+        // The rites of the first alone hold all the others.
+        refuses(UNSUPPORTED, heap -> {
+            fourteenLive(heap);
+            heap.pop();
+            heap.rites(1, true);
+        }, heap -> heap.alloc(0));
+        SlidingHeap one = heapAfter(HeapChecks::fourteenWithRites);
+        one.rites(9, false);
+        same("one without rites is enough", one.alloc(0), 9);
+        same("the others are in the queue", one.count(5), 13);
+    }
+
+    private static void allocNoWords() {
+        refuses(UNSUPPORTED, HeapChecks::ninetyWords, heap -> heap.alloc(0));
+        for (int slots = 5; slots <= 10; slots++) {
+            int many = slots;
+            refuses(UNSUPPORTED, heap -> fill(heap, 10, 10, 10, 10, 10, 10, 10), heap -> heap.alloc(many));
+            // Collecting would help, but by too little: four slots would fit then.
+            refuses(UNSUPPORTED, heap -> {
+                ninetyWords(heap);
+                heap.pop();
+            }, heap -> heap.alloc(many));
+        }
+        SlidingHeap fits = heapAfter(HeapChecks::ninetyWords);
+        fits.pop();
+        same("just as many behind collecting", fits.alloc(4), 8);
+        same("top", fits.count(2), 90);
+        Steps heldByRites = heap -> {
+            ninetyWords(heap);
+            heap.refer(8, 0, 7, false);
+            heap.refer(1, 0, 8, true);
+            heap.rites(8, true);
+            heap.pop();
+            heap.pop();
+        };
+        refuses(UNSUPPORTED, heldByRites, heap -> heap.alloc(0));
+        Steps heldWeakly = heap -> {
+            heldByRites.on(heap);
+            heap.refer(8, 0, 7, true);
+        };
+        same("what has rites holds nothing weakly", heapAfter(heldWeakly).alloc(10), 7);
     }
 
     private static void number() {
-        promise = "3 number";
-        SlidingHeap heap = heapOf(2, 1);
-        for (int value : new int[] {Integer.MIN_VALUE, -1, 0, 1, 2, 15, Integer.MAX_VALUE}) {
-            heap.number(1, 1, value);
-            same("get", heap.get(1, 1), value);
-            same("kind", heap.kind(1, 1), 0);
-            same("the other slot", heap.get(1, 0), 0);
+        SlidingHeap heap = heapOf(10, 1);
+        for (int value : new int[] {MIN, -1, 0, 1, 2, 15, MAX}) {
+            heap.number(1, 0, value);
+            heap.number(1, 9, -value);
+            same("the first slot", heap.get(1, 0), value);
+            same("the last slot", heap.get(1, 9), -value);
+            same("kind", heap.kind(1, 9), 0);
+            same("a slot between", heap.get(1, 5), 0);
+            same("the next object", heap.word(12), 1);
         }
-        heap.refer(1, 0, 2, false);
-        heap.number(1, 0, 2);
-        same("kind behind a reference", heap.kind(1, 0), 0);
+        for (boolean weak : new boolean[] {false, true}) {
+            heap.refer(1, 4, 2, weak);
+            heap.number(1, 4, 2);
+            same("kind behind a reference", heap.kind(1, 4), 0);
+        }
         heap.pop();
-        same("a number holds nothing", heap.about(2, 4), 0);
-        refusesSlots((h, handle, slot) -> h.number(handle, slot, 5));
+        same("a number holds nothing", isLive(heap, 2), false);
+        heap.number(2, 0, 6);
+        same("of one that is lost, but not gone", heap.get(2, 0), 6);
     }
 
     private static void refer() {
-        promise = "4 refer";
-        SlidingHeap heap = heapOf(3, 1);
+        SlidingHeap heap = heapOf(10, 1);
         heap.refer(1, 0, 2, false);
         heap.refer(1, 1, 2, true);
-        heap.refer(1, 2, 1, false);
-        row("values", i -> i < 3 ? heap.get(1, i) : NONE, 2, 2, 1);
-        row("kinds", i -> i < 3 ? heap.kind(1, i) : NONE, 1, 2, 1);
+        heap.refer(1, 9, 1, false);
+        first("value", slot -> heap.get(1, slot), 2, 2, 0, 0, 0, 0, 0, 0, 0, 1);
+        first("kind", slot -> heap.kind(1, slot), 1, 2, 0, 0, 0, 0, 0, 0, 0, 1);
         heap.refer(1, 0, 0, true);
         heap.refer(1, 1, 0, false);
-        row("values 0", i -> i < 2 ? heap.get(1, i) : NONE, 0, 0);
-        row("kinds of 0", i -> i < 2 ? heap.kind(1, i) : NONE, 2, 1);
-        refusesSlots((h, handle, slot) -> h.refer(handle, slot, 1, false));
-        refusesSlots((h, handle, slot) -> h.refer(handle, slot, 99, true));
-        for (int target : STRANGE) {
-            if (target != 0) {
-                refuses(IllegalArgumentException.class, PromiseTest::twoObjects, h -> {
-                    h.refer(1, 0, target, false);
-                    return 0;
-                });
+        first("value 0", slot -> heap.get(1, slot), 0, 0);
+        first("kind of 0", slot -> heap.kind(1, slot), 2, 1);
+        heap.pop();
+        heap.refer(1, 0, 2, false);
+        same("one that is lost, but not gone, is live again", isLive(heap, 2), true);
+        heap.refer(1, 0, 1, false);
+        heap.refer(2, 0, 1, false);
+        same("a slot of one that is lost, but not gone", heap.get(2, 0), 1);
+        SlidingHeap all = heapAfter(HeapChecks::fourteenLive);
+        all.refer(14, 0, 14, true);
+        same("the greatest handle", all.get(14, 0), 14);
+    }
+
+    private static void referNoTarget() {
+        for (int target : new int[] {MIN, -2, -1, 6, 7, 14, 15, 16, 90, MAX}) {
+            for (boolean weak : new boolean[] {false, true}) {
+                refuses(ARGUMENT, HeapChecks::busy, heap -> noAnswer(() -> heap.refer(1, 0, target, weak)));
             }
         }
-        refuses(IllegalArgumentException.class, PromiseTest::twoObjects, h -> {
-            h.refer(1, 0, 3, true);
-            return 0;
-        });
-        SlidingHeap lost = heapOf(1, 0);
-        lost.pop();
-        lost.refer(1, 0, 2, false);
-        same("a lost object that is not gone may be referred to", lost.about(2, 4), 1);
+        refuses(ARGUMENT, HeapChecks::fourteenLive, heap -> noAnswer(() -> heap.refer(1, 0, 15, false)));
     }
 
     private static void get() {
-        promise = "5 get";
         SlidingHeap heap = heapOf(1, 10);
         heap.number(2, 0, 41);
-        heap.number(2, 9, 43);
+        heap.number(2, 9, MIN);
         heap.refer(1, 0, 2, true);
-        same("first slot", heap.get(2, 0), 41);
-        same("last slot", heap.get(2, 9), 43);
-        same("weak slot", heap.get(1, 0), 2);
-        repeat(2, heap::pop);
-        same("of a lost object", heap.get(2, 9), 43);
-        refusesSlots((h, handle, slot) -> h.get(handle, slot));
+        same("the first slot", heap.get(2, 0), 41);
+        same("the last slot", heap.get(2, 9), MIN);
+        same("a weak slot", heap.get(1, 0), 2);
+        popAll(heap);
+        same("of one that is lost, but not gone", heap.get(2, 9), MIN);
+        heap.push(2);
+        heap.collect();
+        same("of one that came down", heap.get(2, 9), MIN);
     }
 
     private static void kind() {
-        promise = "6 kind";
-        SlidingHeap heap = heapOf(3);
-        heap.refer(1, 1, 1, false);
-        heap.refer(1, 2, 1, true);
-        row("kinds", i -> i < 3 ? heap.kind(1, i) : NONE, 0, 1, 2);
-        heap.refer(1, 1, 1, true);
-        heap.refer(1, 2, 1, false);
-        row("kinds changed", i -> i < 3 ? heap.kind(1, i) : NONE, 0, 2, 1);
-        refusesSlots((h, handle, slot) -> h.kind(handle, slot));
+        SlidingHeap heap = heapOf(0, 10);
+        heap.refer(2, 0, 2, false);
+        heap.refer(2, 9, 2, true);
+        first("kind", slot -> heap.kind(2, slot), 1, 0, 0, 0, 0, 0, 0, 0, 0, 2);
+        heap.refer(2, 0, 0, true);
+        heap.refer(2, 9, 0, false);
+        first("kind", slot -> heap.kind(2, slot), 2, 0, 0, 0, 0, 0, 0, 0, 0, 1);
+        popAll(heap);
+        same("of one that is lost, but not gone", heap.kind(2, 9), 1);
+        heap.push(2);
+        heap.collect();
+        first("kind of one that came down", slot -> heap.kind(2, slot), 2, 0, 0, 0, 0, 0, 0, 0, 0, 1);
     }
 
     private static void push() {
-        promise = "7 push";
         SlidingHeap heap = heapOf(0, 0);
         same("push(1)", heap.push(1), 3);
         same("push(1) again", heap.push(1), 4);
         row("roots", heap::root, 1, 2, 1, 1);
-        repeat(4, heap::pop);
-        same("push of a lost object", heap.push(2), 1);
+        popAll(heap);
+        same("the first root, of one that is lost, but not gone", heap.push(2), 1);
         for (int many = 2; many <= 10; many++) {
-            same("push", heap.push(2), many);
+            same("push", heap.push(many % 2 + 1), many);
         }
-        for (int handle : STRANGE) {
-            refuses(IndexOutOfBoundsException.class, PromiseTest::twoObjects, h -> h.push(handle));
-            refuses(IndexOutOfBoundsException.class, PromiseTest::tenRoots, h -> h.push(handle));
-        }
-        refuses(IndexOutOfBoundsException.class, PromiseTest::goneObject, h -> h.push(2));
-        refuses(IllegalStateException.class, PromiseTest::tenRoots, h -> h.push(1));
+        row("ten roots", heap::root, 2, 1, 2, 1, 2, 1, 2, 1, 2, 1);
+        SlidingHeap queue = heapAfter(HeapChecks::threeQueued);
+        same("the first of the queue", queue.push(1), 2);
+        same("the last of the queue", queue.push(3), 3);
+        row("they stay there", queue::queued, 1, 2, 3);
+        SlidingHeap all = heapAfter(HeapChecks::fourteenLive);
+        same("the greatest handle", all.push(14), 2);
+    }
+
+    private static void pushTenRoots() {
+        refuses(STATE, HeapChecks::tenRoots, heap -> heap.push(1));
+        refuses(STATE, HeapChecks::busyWithTenRoots, heap -> heap.push(3));
+        refuses(STATE, HeapChecks::busyWithTenRoots, heap -> heap.push(4));
     }
 
     private static void pop() {
-        promise = "8 pop";
         SlidingHeap heap = heapOf(0, 0);
         heap.push(1);
         row("pop", i -> heap.pop(), 1, 2, 1);
-        same("pop without roots", heap.pop(), NONE);
-        same("roots", heap.count(4), 0);
         same("objects stay until they are collected", heap.count(0), 2);
-        same("push behind it", heap.push(2), 1);
+        SlidingHeap full = heapOf(0, 0, 0, 0, 0, 0, 0, 0, 0, 0);
+        row("pop of ten roots", i -> full.pop(), 10, 9, 8, 7, 6, 5, 4, 3, 2, 1);
+    }
+
+    private static void popNone() {
+        SlidingHeap heap = new SlidingHeap();
+        repeat(3, () -> same("without objects", heap.pop(), NONE));
+        same("roots", heap.count(4), 0);
+        heap.alloc(0);
+        heap.pop();
+        repeat(3, () -> same("without roots", heap.pop(), NONE));
+        same("roots", heap.count(4), 0);
+        same("push behind it", heap.push(1), 1);
+        row("roots", heap::root, 1);
     }
 
     private static void root() {
-        promise = "9 root";
         SlidingHeap heap = heapOf(0, 0, 0);
         heap.push(2);
         row("roots", heap::root, 1, 2, 3, 2);
+        SlidingHeap full = heapOf(0, 0, 0, 0, 0, 0, 0, 0, 0, 0);
+        same("the first of ten", full.root(0), 1);
+        same("the last of ten", full.root(9), 10);
+    }
+
+    private static void rootNone() {
+        SlidingHeap heap = new SlidingHeap();
+        same("the first of none", heap.root(0), NONE);
+        heap.alloc(0);
+        heap.alloc(0);
         heap.pop();
-        same("behind the last", heap.root(3), NONE);
-        for (int i : new int[] {Integer.MIN_VALUE, -1, 10, Integer.MAX_VALUE}) {
+        same("where one was", heap.root(1), NONE);
+        SlidingHeap full = heapAfter(HeapChecks::tenRoots);
+        same("behind ten", full.root(10), NONE);
+        for (int i : NO_PLACES) {
             same("root(" + i + ")", heap.root(i), NONE);
+            same("root(" + i + ") of ten", full.root(i), NONE);
         }
-        SlidingHeap full = new SlidingHeap();
-        tenRoots(full);
-        row("ten roots", full::root, 1, 1, 1, 1, 1, 1, 1, 1, 1, 1);
     }
 
     private static void rites() {
-        promise = "10 rites";
         SlidingHeap heap = heapOf(0, 0);
-        heap.rites(1, true);
+        repeat(2, () -> heap.rites(1, true));
+        repeat(2, () -> heap.rites(2, false));
+        same("given twice", heap.about(1, 3), 1);
+        same("never given", heap.about(2, 3), 0);
         heap.rites(2, true);
+        repeat(2, () -> heap.rites(1, false));
+        same("taken back", heap.about(1, 3), 0);
+        popAll(heap);
+        heap.rites(2, false);
         heap.rites(2, true);
-        heap.rites(1, false);
-        same("rites taken back", heap.about(1, 3), 0);
-        same("rites given", heap.about(2, 3), 1);
-        repeat(2, heap::pop);
-        heap.collect();
+        same("of one that is lost, but not gone", heap.about(2, 3), 1);
+        same("one without rites goes", heap.collect(), 2);
         row("queue", heap::queued, 2);
-        same("rites are given once", heap.about(2, 3), 0);
-        for (int handle : STRANGE) {
-            for (boolean has : new boolean[] {true, false}) {
-                refuses(IndexOutOfBoundsException.class, PromiseTest::twoObjects, h -> {
-                    h.rites(handle, has);
-                    return 0;
-                });
-            }
-        }
-        SlidingHeap again = heapOf(0);
-        again.rites(1, true);
-        again.pop();
-        again.collect();
-        again.rites(1, true);
-        again.collect();
-        row("one in the queue is not lost", again::queued, 1);
-        same("so it keeps its rites", again.about(1, 3), 1);
-        again.take();
-        again.pop();
-        again.collect();
-        row("lost a second time", again::queued, 1);
+        heap.rites(2, true);
+        same("of one in the queue", heap.about(2, 3), 1);
+        SlidingHeap all = heapAfter(HeapChecks::fourteenLive);
+        all.rites(14, true);
+        same("the greatest handle", all.about(14, 3), 1);
+        same("its neighbour", all.about(13, 3), 0);
+    }
+
+    private static void ritesNoObject() {
+        refusesNoObject((heap, handle) -> heap.rites(handle, true));
+        refusesNoObject((heap, handle) -> heap.rites(handle, false));
     }
 
     private static void take() {
-        promise = "11 take";
-        SlidingHeap heap = new SlidingHeap();
-        same("take of nothing", heap.take(), NONE);
-        threeQueued(heap);
+        SlidingHeap heap = heapAfter(HeapChecks::threeQueued);
         same("take", heap.take(), 1);
+        row("queue", heap::queued, 2, 3);
+        row("roots", heap::root, 4, 1);
         same("take", heap.take(), 2);
-        row("roots", heap::root, 4, 1, 2);
-        row("queue", heap::queued, 3);
-        same("take", heap.take(), 3);
-        same("take of nothing", heap.take(), NONE);
+        same("take of the last", heap.take(), 3);
+        row("queue", heap::queued);
         row("roots", heap::root, 4, 1, 2, 3);
-        Steps full = h -> {
-            threeQueued(h);
-            repeat(9, () -> h.push(4));
-        };
-        refuses(IllegalStateException.class, full, SlidingHeap::take);
-        SlidingHeap tenRoots = new SlidingHeap();
-        tenRoots(tenRoots);
-        same("take of nothing with ten roots", tenRoots.take(), NONE);
+        SlidingHeap nine = heapAfter(HeapChecks::threeQueued);
+        repeat(8, () -> nine.push(4));
+        same("with nine roots", nine.take(), 1);
+        same("the tenth root", nine.root(9), 1);
+        SlidingHeap all = heapAfter(HeapChecks::fourteenWithRites);
+        all.collect();
+        row("ten of fourteen", i -> i < 10 ? all.take() : NONE, 1, 2, 3, 4, 5, 6, 7, 8, 9, 10);
+        row("queue", all::queued, 11, 12, 13, 14);
+    }
+
+    private static void takeNone() {
+        SlidingHeap heap = new SlidingHeap();
+        repeat(2, () -> same("without objects", heap.take(), NONE));
+        same("roots", heap.count(4), 0);
+        SlidingHeap taken = heapAfter(HeapChecks::threeQueued);
+        repeat(3, taken::take);
+        repeat(2, () -> same("when all are taken", taken.take(), NONE));
+        row("roots", taken::root, 4, 1, 2, 3);
+        row("queue", taken::queued);
+        SlidingHeap full = heapAfter(HeapChecks::tenRoots);
+        same("with ten roots", full.take(), NONE);
+        same("how many there are then", full.count(4), 10);
+    }
+
+    private static void takeTenRoots() {
+        refuses(STATE, heap -> {
+            threeQueued(heap);
+            repeat(9, () -> heap.push(4));
+        }, SlidingHeap::take);
+        refuses(STATE, HeapChecks::busyWithTenRoots, SlidingHeap::take);
     }
 
     private static void queued() {
-        promise = "12 queued";
-        SlidingHeap heap = new SlidingHeap();
-        threeQueued(heap);
+        SlidingHeap heap = heapAfter(HeapChecks::threeQueued);
         row("queue", heap::queued, 1, 2, 3);
-        for (int i : new int[] {Integer.MIN_VALUE, -1, 3, 14, Integer.MAX_VALUE}) {
-            same("queued(" + i + ")", heap.queued(i), NONE);
-        }
-        heap.rites(4, true);
-        heap.pop();
         heap.take();
-        heap.collect();
-        row("the lost come to the end", heap::queued, 2, 3, 4);
-        SlidingHeap full = new SlidingHeap();
-        fourteenLost(full);
-        full.collect();
-        row("all in the queue", full::queued, 1, 2, 3, 4, 5, 6, 7, 8, 9, 10, 11, 12, 13, 14);
+        row("the first has gone", heap::queued, 2, 3);
+        SlidingHeap all = heapAfter(HeapChecks::fourteenWithRites);
+        all.collect();
+        same("the first of fourteen", all.queued(0), 1);
+        same("the last of fourteen", all.queued(13), 14);
     }
 
-    private static void collectSlides() {
-        promise = "13 collect, sliding";
-        SlidingHeap heap = heapOf(2, 1, 3, 0);
-        heap.number(3, 0, 31);
-        heap.refer(3, 1, 1, false);
-        heap.refer(3, 2, 4, true);
-        heap.refer(1, 1, 1, true);
-        repeat(4, heap::pop);
+    private static void queuedNone() {
+        SlidingHeap heap = new SlidingHeap();
+        same("the first of none", heap.queued(0), NONE);
+        SlidingHeap three = heapAfter(HeapChecks::threeQueued);
+        same("behind the last", three.queued(3), NONE);
+        three.take();
+        same("where one was", three.queued(2), NONE);
+        SlidingHeap all = heapAfter(HeapChecks::fourteenWithRites);
+        all.collect();
+        for (int i : NO_PLACES) {
+            same("queued(" + i + ")", heap.queued(i), NONE);
+            same("queued(" + i + ") of fourteen", all.queued(i), NONE);
+        }
+    }
+
+    private static void collect() {
+        SlidingHeap heap = new SlidingHeap();
+        same("without objects", heap.collect(), 0);
+        fill(heap, 2, 1, 3, 0);
+        same("when nothing is lost", heap.collect(), 0);
+        heap.pop();
+        same("when the least is lost", heap.collect(), 2);
+        heap.pop();
+        heap.pop();
         heap.push(3);
-        same("answer", heap.collect(), 5);
-        row("words", i -> i < 12 ? heap.word(i) : NONE, 2, 1, 0, 1, 3, 3, 31, 1, 0, 0, 0, 0);
-        row("kinds", i -> i < 3 ? heap.kind(3, i) : NONE, 0, 1, 2);
-        same("kind of a kept one", heap.kind(1, 1), 2);
-        same("words in use", heap.count(2), 9);
-        row("starts", i -> i == 0 ? heap.about(1, 0) : i == 1 ? heap.about(3, 0) : NONE, 0, 4);
-        same("alloc takes the freed handle", heap.alloc(1), 2);
-        same("kinds behind the top are gone too", heap.kind(2, 0), 0);
-        same("answer when nothing is lost", heap.collect(), 0);
-        heap.pop();
-        heap.pop();
-        heap.push(2);
-        same("order is that in the heap", heap.collect(), 9);
-        same("order is that in the heap", heap.about(2, 0), 0);
-    }
-
-    private static void collectCutsWeakSlots() {
-        promise = "13 collect, weak slots";
-        SlidingHeap heap = heapOf(2, 0, 0);
-        heap.refer(1, 0, 2, true);
-        heap.refer(1, 1, 3, true);
+        same("when one between is lost", heap.collect(), 3);
+        same("a second time", heap.collect(), 0);
         heap.rites(3, true);
         heap.pop();
-        heap.pop();
-        heap.push(2);
-        heap.collect();
-        same("weak slot with a live one", heap.get(1, 0), 2);
-        same("weak slot with one that is lost and has rites", heap.get(1, 1), 0);
-        same("it stays weak", heap.kind(1, 1), 2);
-
-        SlidingHeap lost = heapOf(3, 0, 1, 0, 0);
-        lost.refer(1, 0, 2, true);
-        lost.refer(1, 1, 3, false);
-        lost.refer(1, 2, 4, true);
-        lost.refer(3, 0, 5, true);
-        lost.rites(1, true);
-        lost.rites(2, true);
-        repeat(5, lost::pop);
-        lost.collect();
-        row("of lost ones that come back", i -> i < 3 ? lost.get(1, i) : NONE, 2, 3, 0);
-        same("of those that they lead to", lost.get(3, 0), 0);
-        row("queue", lost::queued, 1, 2);
-        same("objects", lost.count(0), 3);
-    }
-
-    private static void collectGivesRites() {
-        promise = "13 collect, rites";
-        SlidingHeap heap = heapOf(1, 1, 0, 0);
-        heap.refer(2, 0, 1, false);
-        heap.refer(1, 0, 3, false);
-        heap.rites(2, true);
-        heap.rites(1, true);
-        heap.rites(4, true);
-        repeat(4, heap::pop);
-        heap.push(4);
-        same("nothing comes down", heap.collect(), 0);
-        row("all with rites, by their handles", heap::queued, 1, 2);
-        same("what they lead to stays", heap.about(3, 4), 1);
-        same("a live one keeps its rites", heap.about(4, 3), 1);
-        same("a queued one has none", heap.about(2, 3), 0);
-        heap.take();
-        heap.take();
-        heap.pop();
-        heap.pop();
-        same("without rites they go", heap.collect(), 8);
-        row("queue", heap::queued);
-    }
-
-    private static void collectAges() {
-        promise = "13 collect, ages";
-        SlidingHeap heap = heapOf(0);
-        for (int i = 1; i <= 101; i++) {
-            heap.collect();
-            same("age", heap.about(1, 2), Math.min(i, 99));
-        }
-        same("collections", heap.count(6), 101);
-        same("a younger one", heap.about(heap.alloc(0), 2), 0);
-        heap.collect();
-        same("a younger one", heap.about(2, 2), 1);
-        SlidingHeap used = heapOf(0, 0);
-        used.collect();
-        used.pop();
-        used.collect();
-        same("a handle that is used again starts anew", used.about(used.alloc(0), 2), 0);
+        same("when the lost one has rites", heap.collect(), 0);
+        SlidingHeap full = heapAfter(HeapChecks::ninetyWords);
+        popAll(full);
+        same("when all words go", full.collect(), 90);
+        same("a second time", full.collect(), 0);
     }
 
     private static void word() {
-        promise = "14 word";
-        SlidingHeap heap = heapOf(2, 0, 1);
-        heap.number(1, 0, -7);
-        heap.refer(1, 1, 3, true);
-        heap.refer(3, 0, 2, false);
-        row("words", i -> i < 10 ? heap.word(i) : NONE, 2, 1, -7, 3, 0, 2, 1, 3, 2, 0);
-        same("the last word", heap.word(89), 0);
-        SlidingHeap full = heapOf(7, 7, 7, 7, 7, 7, 7, 7, 7, 7);
-        full.number(10, 6, 5);
-        same("the last word", full.word(89), 5);
-        for (int i : new int[] {Integer.MIN_VALUE, -1, 90, Integer.MAX_VALUE}) {
-            refuses(IndexOutOfBoundsException.class, PromiseTest::twoObjects, h -> h.word(i));
+        SlidingHeap heap = heapOf(2, 0);
+        heap.number(1, 0, MAX);
+        heap.refer(1, 1, 2, true);
+        first("word", heap::word, 2, 1, MAX, 2, 0, 2, 0);
+        same("the last word, not in use", heap.word(89), 0);
+        heap.number(1, 0, 4);
+        same("a word that has changed", heap.word(2), 4);
+        SlidingHeap full = heapAfter(HeapChecks::ninetyWords);
+        full.number(8, 3, MIN);
+        same("the first word of a full heap", full.word(0), 10);
+        same("the last word of a full heap", full.word(89), MIN);
+    }
+
+    private static void wordNone() {
+        for (int i : new int[] {MIN, -2, -1, 90, 91, MAX}) {
+            refuses(INDEX, NEW, heap -> heap.word(i));
+            refuses(INDEX, HeapChecks::busy, heap -> heap.word(i));
+            refuses(INDEX, HeapChecks::ninetyWords, heap -> heap.word(i));
         }
     }
 
-    private static void about() {
-        promise = "15 about";
-        SlidingHeap heap = heapOf(3, 2);
-        heap.refer(1, 0, 2, false);
-        heap.refer(1, 1, 2, true);
-        heap.number(1, 2, 2);
-        heap.refer(2, 0, 2, true);
-        heap.rites(2, true);
-        row("of 1", what -> what < 6 ? heap.about(1, what) : NONE, 0, 3, 0, 0, 1, 0);
-        row("of 2", what -> what < 6 ? heap.about(2, what) : NONE, 5, 2, 0, 1, 1, 3);
-        heap.pop();
-        same("live by a reference", heap.about(2, 4), 1);
-        heap.number(1, 0, 0);
-        same("not live by weak ones", heap.about(2, 4), 0);
-        repeat(1, heap::pop);
-        same("slots of lost ones count", heap.about(2, 5), 2);
+    private static void aboutPlace() {
+        SlidingHeap heap = heapOf(1, 0, 10);
+        row("places", i -> i < 3 ? heap.about(i + 1, 0) : NONE, 0, 3, 5);
+        popAll(heap);
+        heap.push(3);
         heap.collect();
-        same("live by the queue", heap.about(2, 4), 1);
-        same("age", heap.about(2, 2), 1);
-        SlidingHeap ring = heapOf(1, 1);
-        ring.refer(1, 0, 2, false);
-        ring.refer(2, 0, 1, false);
-        repeat(2, ring::pop);
-        same("a lost ring is not live", ring.about(1, 4), 0);
-        for (int what : new int[] {Integer.MIN_VALUE, -1, 6, Integer.MAX_VALUE}) {
-            refuses(IllegalArgumentException.class, PromiseTest::twoObjects, h -> h.about(1, what));
-            refuses(IndexOutOfBoundsException.class, PromiseTest::twoObjects, h -> h.about(3, what));
+        same("of one that came down", heap.about(3, 0), 0);
+        SlidingHeap last = heapOf(10, 10, 10, 10, 10, 10, 10, 2, 0);
+        same("the last place that there is", last.about(9, 0), 88);
+    }
+
+    private static void aboutSlots() {
+        SlidingHeap heap = heapOf(0, 10, 1);
+        row("slots", i -> i < 3 ? heap.about(i + 1, 1) : NONE, 0, 10, 1);
+        popAll(heap);
+        heap.collect();
+        heap.alloc(7);
+        same("of a handle that is used again", heap.about(1, 1), 7);
+    }
+
+    private static void aboutAge() {
+        SlidingHeap heap = heapOf(0);
+        same("at first", heap.about(1, 2), 0);
+        heap.pop();
+        same("of one that is lost, but not gone", heap.about(1, 2), 0);
+        heap.push(1);
+        heap.collect();
+        same("behind collecting", heap.about(1, 2), 1);
+        repeat(97, heap::collect);
+        same("the last but one", heap.about(1, 2), 98);
+        heap.collect();
+        same("the last", heap.about(1, 2), 99);
+        heap.collect();
+        same("and no more", heap.about(1, 2), 99);
+    }
+
+    private static void aboutRites() {
+        SlidingHeap heap = heapOf(0, 0);
+        heap.rites(2, true);
+        same("without", heap.about(1, 3), 0);
+        same("with", heap.about(2, 3), 1);
+        heap.pop();
+        same("of one that is lost, but not gone", heap.about(2, 3), 1);
+        heap.collect();
+        same("of one in the queue", heap.about(2, 3), 0);
+    }
+
+    private static void aboutLive() {
+        SlidingHeap heap = heapOf(1, 0);
+        heap.refer(1, 0, 2, false);
+        heap.pop();
+        row("a root and what it leads to", i -> i < 2 ? heap.about(i + 1, 4) : NONE, 1, 1);
+        heap.refer(1, 0, 2, true);
+        row("a root and what it has weakly", i -> i < 2 ? heap.about(i + 1, 4) : NONE, 1, 0);
+        heap.rites(2, true);
+        same("rites do not make live", heap.about(2, 4), 0);
+        heap.collect();
+        same("the queue does", heap.about(2, 4), 1);
+    }
+
+    private static void aboutShown() {
+        SlidingHeap heap = heapOf(10, 2);
+        same("none", heap.about(2, 5), 0);
+        heap.refer(1, 0, 2, false);
+        heap.refer(1, 9, 2, true);
+        same("each slot of one object", heap.about(2, 5), 2);
+        heap.refer(2, 1, 2, false);
+        same("its own too", heap.about(2, 5), 3);
+        heap.number(1, 5, 2);
+        same("no number", heap.about(2, 5), 3);
+        heap.refer(1, 5, 1, false);
+        heap.refer(1, 6, 0, false);
+        same("no slot with another one", heap.about(2, 5), 3);
+        popAll(heap);
+        same("those of lost ones", heap.about(2, 5), 3);
+        heap.push(2);
+        heap.collect();
+        same("not those of gone ones", heap.about(2, 5), 1);
+        SlidingHeap most = heapOf(10, 10, 10, 10, 10, 10, 10);
+        for (int handle = 1; handle <= 7; handle++) {
+            for (int slot = 0; slot < 10; slot++) {
+                most.refer(handle, slot, 7, slot < 5);
+            }
         }
-        for (int handle : STRANGE) {
-            refuses(IndexOutOfBoundsException.class, PromiseTest::twoObjects, h -> h.about(handle, 0));
+        same("all slots of all objects", most.about(7, 5), 70);
+        // The words of the header are no slots, though they may be as great as the handle.
+        same("no word of a header", heapOf(2, 2).about(2, 5), 0);
+    }
+
+    private static void aboutNoObject() {
+        for (int what = 0; what <= 5; what++) {
+            int which = what;
+            refusesNoObject((heap, handle) -> heap.about(handle, which));
         }
-        refuses(IndexOutOfBoundsException.class, PromiseTest::goneObject, h -> h.about(2, 4));
+    }
+
+    private static void aboutWrongWhat() {
+        for (int what : new int[] {MIN, -2, -1, 6, 7, MAX}) {
+            refuses(ARGUMENT, HeapChecks::busy, heap -> heap.about(1, what));
+            refuses(ARGUMENT, HeapChecks::busy, heap -> heap.about(4, what));
+        }
     }
 
     private static void far() {
-        promise = "16 far";
         SlidingHeap heap = heapOf(2, 1, 1, 0);
-        repeat(4, heap::pop);
-        same("lost", heap.far(1), NONE);
-        heap.push(1);
+        repeat(3, heap::pop);
         heap.refer(1, 0, 2, false);
         heap.refer(2, 0, 3, false);
         heap.refer(3, 0, 4, false);
-        row("in a chain", i -> i < 4 ? heap.far(i + 1) : NONE, 0, 1, 2, 3);
-        heap.refer(1, 1, 4, true);
-        same("weak ones are no way", heap.far(4), 3);
+        first("in a chain", i -> heap.far(i + 1), 0, 1, 2, 3);
         heap.refer(1, 1, 3, false);
-        same("the shortest", heap.far(4), 2);
-        heap.push(3);
-        same("from the nearest root", heap.far(4), 1);
-        repeat(2, heap::pop);
-        heap.rites(2, true);
+        first("with a shorter way", i -> heap.far(i + 1), 0, 1, 1, 2);
+        SlidingHeap chain = heapAfter(HeapChecks::fourteenLive);
+        same("the root, though a ring leads back to it", chain.far(1), 0);
+        same("the longest way", chain.far(14), 13);
+        SlidingHeap self = heapOf(1);
+        self.refer(1, 0, 1, false);
+        same("a root that refers to itself", self.far(1), 0);
+    }
+
+    private static void farFromNearest() {
+        SlidingHeap heap = heapAfter(HeapChecks::fourteenLive);
+        heap.push(9);
+        first("from the nearest root", i -> heap.far(i + 1), 0, 1, 2, 3, 4, 5, 6, 7, 0, 1, 2, 3, 4, 5);
+        heap.pop();
+        heap.pop();
+        heap.rites(13, true);
         heap.collect();
-        row("from the queue", i -> i < 3 ? heap.far(i + 2) : NONE, 0, 1, 2);
-        SlidingHeap chain = new SlidingHeap();
-        longChain(chain);
-        same("through all objects", chain.far(14), 13);
-        for (int handle : STRANGE) {
-            refuses(IndexOutOfBoundsException.class, PromiseTest::twoObjects, h -> h.far(handle));
-        }
-        refuses(IndexOutOfBoundsException.class, PromiseTest::goneObject, h -> h.far(2));
+        first("from the queue", i -> heap.far(i + 1), 2, 3, 4, 5, 6, 7, 8, 9, 10, 11, 12, 13, 0, 1);
+        heap.push(12);
+        first("from the queue and from a root", i -> heap.far(i + 11), 12, 0, 0, 1);
+        SlidingHeap last = heapAfter(HeapChecks::fourteenLive);
+        last.push(3);
+        repeat(7, () -> last.push(1));
+        last.push(14);
+        same("from the tenth root", last.far(14), 0);
+    }
+
+    private static void farNotWeak() {
+        SlidingHeap heap = heapOf(2, 1, 0);
+        repeat(2, heap::pop);
+        heap.refer(1, 0, 3, true);
+        heap.refer(1, 1, 2, false);
+        heap.refer(2, 0, 3, false);
+        same("not the weak one, though it is shorter", heap.far(3), 2);
+        heap.refer(2, 0, 3, true);
+        same("weak ones only", heap.far(3), NONE);
+        heap.number(2, 0, 3);
+        same("a number", heap.far(3), NONE);
+    }
+
+    private static void farNone() {
+        SlidingHeap heap = heapOf(1, 1);
+        heap.refer(1, 0, 2, false);
+        heap.refer(2, 0, 1, false);
+        popAll(heap);
+        same("without roots, in a ring", heap.far(1), NONE);
+        heap.rites(1, true);
+        same("rites are no way", heap.far(1), NONE);
+        heap.alloc(0);
+        same("with another root", heap.far(2), NONE);
+        heap.pop();
+        heap.push(2);
+        heap.refer(2, 0, 0, false);
+        same("against a reference", heap.far(1), NONE);
     }
 
     private static void way() {
-        promise = "17 way";
-        SlidingHeap heap = heapOf(2, 2, 1, 1, 0, 0);
-        repeat(6, heap::pop);
-        row("to a lost one", k -> heap.way(5, k));
-        heap.push(2);
-        heap.push(1);
-        row("to a root", k -> heap.way(2, k), 2);
-        heap.refer(1, 0, 4, false);
-        heap.refer(2, 0, 3, false);
-        heap.refer(4, 0, 5, false);
-        heap.refer(3, 0, 5, false);
-        row("the least root, though its second is greater", k -> heap.way(5, k), 1, 4, 5);
-        heap.refer(1, 1, 3, false);
-        row("the least second one, though its slot is later", k -> heap.way(5, k), 1, 3, 5);
-        heap.refer(2, 1, 5, false);
-        row("the shortest, though its root is greater", k -> heap.way(5, k), 2, 5);
-        heap.refer(2, 1, 5, true);
-        heap.refer(1, 1, 6, false);
-        row("over the one that leads there", k -> heap.way(5, k), 1, 4, 5);
-        repeat(2, heap::pop);
-        heap.rites(3, true);
-        heap.collect();
-        row("from the queue", k -> heap.way(5, k), 3, 5);
-        heap.push(5);
-        row("itself alone", k -> heap.way(5, k), 5);
-        for (int k : new int[] {Integer.MIN_VALUE, -1, 1, 14, Integer.MAX_VALUE}) {
-            same("way(5, " + k + ")", heap.way(5, k), NONE);
-        }
-        SlidingHeap beyond = heapOf(2, 1, 1, 0);
-        repeat(3, beyond::pop);
-        beyond.refer(1, 0, 2, true);
-        beyond.refer(1, 1, 3, false);
-        beyond.refer(2, 0, 4, false);
-        beyond.refer(3, 0, 4, false);
-        row("not over a weak one, though it is less", k -> beyond.way(4, k), 1, 3, 4);
-        row("it ends with the object, though that leads on", k -> beyond.way(3, k), 1, 3);
-        SlidingHeap chain = new SlidingHeap();
-        longChain(chain);
-        row("through all objects", k -> chain.way(14, k), 1, 2, 3, 4, 5, 6, 7, 8, 9, 10, 11, 12, 13, 14);
-        for (int handle : STRANGE) {
-            refuses(IndexOutOfBoundsException.class, PromiseTest::twoObjects, h -> h.way(handle, 0));
-        }
-        refuses(IndexOutOfBoundsException.class, PromiseTest::goneObject, h -> h.way(2, -1));
+        SlidingHeap chain = heapAfter(HeapChecks::fourteenLive);
+        row("the longest way", k -> chain.way(14, k), 1, 2, 3, 4, 5, 6, 7, 8, 9, 10, 11, 12, 13, 14);
+        row("a root alone, though a ring leads back to it", k -> chain.way(1, k), 1);
+        chain.push(12);
+        row("the shortest, though its root is greater", k -> chain.way(14, k), 12, 13, 14);
+        SlidingHeap queue = heapAfter(HeapChecks::fourteenLive);
+        queue.rites(13, true);
+        queue.pop();
+        queue.collect();
+        row("from the queue", k -> queue.way(2, k), 13, 14, 1, 2);
+        row("one of the queue alone", k -> queue.way(13, k), 13);
+        SlidingHeap weak = heapOf(2, 1, 1, 0);
+        repeat(3, weak::pop);
+        weak.refer(1, 0, 2, true);
+        weak.refer(1, 1, 3, false);
+        weak.refer(2, 0, 4, false);
+        weak.refer(3, 0, 4, false);
+        row("not over a weak one, though it is less", k -> weak.way(4, k), 1, 3, 4);
+        row("it ends with the object, though that leads on", k -> weak.way(3, k), 1, 3);
     }
 
-    private static void count() {
-        promise = "18 count";
-        SlidingHeap heap = new SlidingHeap();
-        threeQueued(heap);
-        heap.alloc(3);
-        heap.alloc(5);
-        heap.push(5);
+    private static void wayLeastRoot() {
+        SlidingHeap heap = heapOf(1, 1, 1, 1, 0);
+        popAll(heap);
+        heap.refer(1, 0, 4, false);
+        heap.refer(2, 0, 3, false);
+        heap.refer(3, 0, 5, false);
+        heap.refer(4, 0, 5, false);
+        heap.push(2);
+        heap.push(1);
+        row("though it is a later root, and its second one is greater", k -> heap.way(5, k), 1, 4, 5);
+        SlidingHeap queue = heapOf(1, 1, 0);
+        queue.refer(1, 0, 3, false);
+        queue.refer(2, 0, 3, false);
+        queue.rites(1, true);
+        popAll(queue);
+        queue.push(2);
+        queue.collect();
+        row("the one of the queue is less", k -> queue.way(3, k), 1, 3);
+        SlidingHeap root = heapOf(1, 1, 0);
+        root.refer(1, 0, 3, false);
+        root.refer(2, 0, 3, false);
+        root.rites(2, true);
+        popAll(root);
+        root.push(1);
+        root.collect();
+        row("the root is less", k -> root.way(3, k), 1, 3);
+    }
+
+    private static void wayLeastNext() {
+        SlidingHeap heap = heapOf(2, 2, 2, 1, 1, 0);
+        repeat(5, heap::pop);
+        heap.refer(1, 0, 3, false);
+        heap.refer(1, 1, 2, false);
+        heap.refer(3, 0, 4, false);
+        heap.refer(4, 0, 6, false);
+        heap.refer(2, 0, 5, false);
+        heap.refer(5, 0, 6, false);
+        row("the second is less, though its slot is later and its third is greater",
+            k -> heap.way(6, k), 1, 2, 5, 6);
+        heap.refer(2, 1, 4, false);
+        row("the third is less, though its slot is later", k -> heap.way(6, k), 1, 2, 4, 6);
+        heap.refer(2, 0, 4, false);
+        heap.refer(2, 1, 5, false);
+        row("the third is less, and its slot is earlier", k -> heap.way(6, k), 1, 2, 4, 6);
+        heap.refer(2, 0, 5, false);
+        heap.refer(2, 1, 3, false);
+        row("the least second one that is on a shortest way", k -> heap.way(6, k), 1, 2, 5, 6);
+        heap.refer(2, 0, 0, false);
+        heap.refer(2, 1, 0, false);
+        row("not one that leads nowhere, though it is less", k -> heap.way(6, k), 1, 3, 4, 6);
+    }
+
+    private static void wayNone() {
+        SlidingHeap heap = heapAfter(HeapChecks::fourteenLive);
+        same("behind the longest way", heap.way(14, 14), NONE);
+        same("behind a root", heap.way(1, 1), NONE);
+        SlidingHeap leadsOn = heapOf(2, 0);
+        leadsOn.pop();
+        leadsOn.refer(1, 0, 2, false);
+        leadsOn.refer(1, 1, 0, false);
+        for (int k = 1; k <= 3; k++) {
+            same("behind a root that leads on", leadsOn.way(1, k), NONE);
+        }
+        for (int k : new int[] {MIN, -2, -1, 15, 90, MAX}) {
+            same("way(14, " + k + ")", heap.way(14, k), NONE);
+            same("way(1, " + k + ")", heap.way(1, k), NONE);
+        }
         heap.pop();
+        for (int k : new int[] {MIN, -1, 0, 1, MAX}) {
+            same("way(14, " + k + ") of one that is lost", heap.way(14, k), NONE);
+        }
+        SlidingHeap weak = heapOf(1, 0);
+        weak.pop();
+        weak.refer(1, 0, 2, true);
+        row("over weak ones only", k -> weak.way(2, k));
+    }
+
+    private static void wayNoObject() {
+        refusesNoObject((heap, handle) -> heap.way(handle, 0));
+        refusesNoObject((heap, handle) -> heap.way(handle, -1));
+        refusesNoObject((heap, handle) -> heap.way(handle, 14));
+    }
+
+    private static void countObjects() {
+        SlidingHeap heap = heapAfter(HeapChecks::fourteenLive);
+        first("all live", heap::count, 14, 14);
         heap.pop();
-        heap.refer(5, 0, 1, false);
-        row("counts", what -> what < 7 ? heap.count(what) : NONE, 6, 5, 20, 13, 2, 3, 1);
+        first("all lost", heap::count, 14, 0);
+        heap.push(14);
+        heap.refer(1, 0, 0, false);
+        first("two live", heap::count, 14, 2);
+        heap.push(1);
+        heap.push(1);
+        first("none counts twice", heap::count, 14, 2);
         heap.collect();
-        row("counts", what -> what < 7 ? heap.count(what) : NONE, 5, 5, 13, 13, 2, 3, 2);
-        for (int what : new int[] {Integer.MIN_VALUE, -1, 7, Integer.MAX_VALUE}) {
-            refuses(IllegalArgumentException.class, PromiseTest::twoObjects, h -> h.count(what));
+        first("the others are gone", heap::count, 2, 2);
+        popAll(heap);
+        heap.collect();
+        first("none", heap::count, 0, 0);
+    }
+
+    private static void countWords() {
+        SlidingHeap heap = heapAfter(HeapChecks::ninetyWords);
+        same("all in use", heap.count(2), 90);
+        same("all of live ones", heap.count(3), 90);
+        heap.pop();
+        same("in use", heap.count(2), 90);
+        same("of live ones", heap.count(3), 84);
+        heap.push(1);
+        same("none counts twice", heap.count(3), 84);
+        popAll(heap);
+        same("in use, all lost", heap.count(2), 90);
+        same("of live ones, all lost", heap.count(3), 0);
+        heap.rites(8, true);
+        heap.collect();
+        same("in use, one in the queue", heap.count(2), 6);
+        same("of live ones, one in the queue", heap.count(3), 6);
+    }
+
+    private static void countRows() {
+        SlidingHeap heap = heapAfter(HeapChecks::fourteenWithRites);
+        same("no roots", heap.count(4), 0);
+        same("an empty queue", heap.count(5), 0);
+        heap.collect();
+        same("all in the queue", heap.count(5), 14);
+        repeat(10, heap::take);
+        same("ten roots", heap.count(4), 10);
+        same("what is left in the queue", heap.count(5), 4);
+        heap.pop();
+        heap.push(1);
+        same("an object that is there twice", heap.count(4), 10);
+    }
+
+    private static void countCollections() {
+        SlidingHeap heap = new SlidingHeap();
+        same("at first", heap.count(6), 0);
+        heap.collect();
+        same("without objects", heap.count(6), 1);
+        heap.alloc(0);
+        same("behind alloc", heap.count(6), 1);
+        heap.collect();
+        heap.collect();
+        same("when nothing is lost", heap.count(6), 3);
+    }
+
+    private static void countCollectionsOfAlloc() {
+        SlidingHeap heap = heapAfter(HeapChecks::ninetyWords);
+        for (int times = 1; times <= 3; times++) {
+            heap.pop();
+            heap.alloc(4);
+            same("alloc that collects", heap.count(6), times);
+        }
+        thrownBy(heap, h -> h.alloc(0));
+        same("alloc that throws", heap.count(6), 3);
+        heap.pop();
+        heap.collect();
+        heap.alloc(4);
+        same("alloc that does not collect", heap.count(6), 4);
+    }
+
+    private static void countWrongWhat() {
+        for (int what : new int[] {MIN, -2, -1, 7, 8, MAX}) {
+            refuses(ARGUMENT, NEW, heap -> heap.count(what));
+            refuses(ARGUMENT, HeapChecks::busy, heap -> heap.count(what));
         }
     }
 
     private static void clear() {
-        promise = "19 clear";
-        SlidingHeap heap = new SlidingHeap();
-        heap.clear();
-        same("of a new heap", snapshot(heap), snapshot(new SlidingHeap()));
-        SlidingHeap used = new SlidingHeap();
-        threeQueued(used);
-        used.alloc(4);
-        used.refer(5, 0, 4, true);
-        used.refer(5, 1, 5, false);
-        used.rites(1, true);
-        used.clear();
-        same("of a used heap", snapshot(used), snapshot(new SlidingHeap()));
-        used.alloc(4);
-        same("used anew", snapshot(used), snapshot(heapOf(4)));
-    }
-
-    private static SlidingHeap heapOf(int... slots) {
-        SlidingHeap heap = new SlidingHeap();
-        fill(heap, slots);
-        return heap;
-    }
-
-    private static void fill(SlidingHeap heap, int... slots) {
-        for (int many : slots) {
-            heap.alloc(many);
+        List<String> empty = look(new SlidingHeap());
+        Steps[] all = {NEW, HeapChecks::busy, HeapChecks::busyWithTenRoots, HeapChecks::busyAndFull,
+            HeapChecks::ninetyWords, HeapChecks::fourteenLive, HeapChecks::threeQueued};
+        for (Steps before : all) {
+            SlidingHeap heap = heapAfter(before);
+            heap.clear();
+            sameLook("all that is there", look(heap), empty);
         }
     }
 
-    private static void twoObjects(SlidingHeap heap) {
-        fill(heap, 2, 10);
-        heap.refer(1, 1, 2, false);
-        heap.number(2, 9, 8);
-    }
-
-    private static void tenRoots(SlidingHeap heap) {
-        heap.alloc(1);
-        repeat(9, () -> heap.push(1));
-    }
-
-    private static void goneObject(SlidingHeap heap) {
-        fill(heap, 1, 1);
-        heap.pop();
-        heap.collect();
-    }
-
-    // Leaves 1, 2 and 3 in the queue and 4 as the only root, each without slots.
-    private static void threeQueued(SlidingHeap heap) {
-        fill(heap, 0, 0, 0, 0);
-        for (int handle = 3; handle >= 1; handle--) {
-            heap.rites(handle, true);
+    private static void clearedIsNew() {
+        List<String> due = look(heapAfter(HeapChecks::busyAndFull));
+        Steps[] all = {NEW, HeapChecks::busy, HeapChecks::busyWithTenRoots, HeapChecks::busyAndFull,
+            HeapChecks::ninetyWords, HeapChecks::fourteenWithRites};
+        for (Steps before : all) {
+            SlidingHeap heap = heapAfter(before);
+            heap.clear();
+            busyAndFull(heap);
+            sameLook("used anew", look(heap), due);
         }
-        repeat(4, heap::pop);
-        heap.push(4);
-        heap.collect();
-    }
-
-    private static void fourteenLost(SlidingHeap heap) {
-        for (int handle = 1; handle <= 14; handle++) {
-            heap.alloc(1);
-            heap.rites(handle, true);
-            heap.pop();
+        SlidingHeap full = heapAfter(HeapChecks::ninetyWords);
+        for (int slot = 0; slot < 10; slot++) {
+            full.refer(1, slot, 1, slot % 2 == 0);
         }
-    }
-
-    private static void fourteenInUse(SlidingHeap heap) {
-        fourteenLost(heap);
-        heap.rites(9, false);
-        heap.push(9);
-    }
-
-    private static void longChain(SlidingHeap heap) {
-        fourteenLost(heap);
-        for (int handle = 1; handle < 14; handle++) {
-            heap.refer(handle, 0, handle + 1, false);
-        }
-        heap.refer(14, 0, 1, false);
-        heap.push(1);
-    }
-
-    private interface SlotCall {
-        void on(SlidingHeap heap, int handle, int slot);
-    }
-
-    private static void refusesSlots(SlotCall call) {
-        for (int strange : STRANGE) {
-            refuses(IndexOutOfBoundsException.class, PromiseTest::twoObjects, heap -> {
-                call.on(heap, strange, 0);
-                return 0;
-            });
-            if (strange != 0) {
-                refuses(IndexOutOfBoundsException.class, PromiseTest::twoObjects, heap -> {
-                    call.on(heap, 1, strange);
-                    return 0;
-                });
-            }
-        }
-        refusesSlot(call, PromiseTest::twoObjects, 1, 2);
-        refusesSlot(call, PromiseTest::twoObjects, 2, 10);
-        refusesSlot(call, PromiseTest::twoObjects, 3, 0);
-        refusesSlot(call, PromiseTest::goneObject, 2, 0);
-    }
-
-    private static void refusesSlot(SlotCall call, Steps before, int handle, int slot) {
-        refuses(IndexOutOfBoundsException.class, before, heap -> {
-            call.on(heap, handle, slot);
-            return 0;
-        });
-    }
-
-    // A twin that does not make the call tells what the heap must still be, as looking at all of it takes
-    // most of the calls that the document allows a heap.
-    private static void refuses(Class<? extends RuntimeException> due, Steps before, Call call) {
-        SlidingHeap heap = new SlidingHeap();
-        SlidingHeap twin = new SlidingHeap();
-        before.on(heap);
-        before.on(twin);
-        same("exception", thrownBy(heap, call), due.getSimpleName());
-        same("state behind " + due.getSimpleName(), snapshot(heap), snapshot(twin));
-    }
-
-    private static String thrownBy(SlidingHeap heap, Call call) {
-        try {
-            return "answer " + call.on(heap);
-        } catch (RuntimeException e) {
-            return e.getClass().getSimpleName();
-        }
-    }
-
-    private static String snapshot(SlidingHeap heap) {
-        StringBuilder text = new StringBuilder();
-        for (int i = 0; i < 90; i++) {
-            text.append(heap.word(i)).append(' ');
-        }
-        text.append("roots").append(read(heap::root)).append("queue").append(read(heap::queued)).append("counts");
-        for (int what = 0; what <= 6; what++) {
-            text.append(' ').append(heap.count(what));
-        }
-        for (int handle = 1; handle <= 14; handle++) {
-            text.append(" object ").append(handle).append(objectText(heap, handle));
-        }
-        return text.toString();
-    }
-
-    private static String objectText(SlidingHeap heap, int handle) {
-        if (thrownBy(heap, h -> h.about(handle, 0)).startsWith("Index")) {
-            return " none";
-        }
-        StringBuilder text = new StringBuilder();
-        for (int what = 1; what <= 5; what++) {
-            text.append(' ').append(heap.about(handle, what));
-        }
-        for (int slot = 0; slot < heap.about(handle, 1); slot++) {
-            text.append(' ').append(heap.kind(handle, slot));
-        }
-        return text.append(" far ").append(heap.far(handle)).append(read(k -> heap.way(handle, k))).toString();
-    }
-
-    private interface Row {
-        int at(int i);
-    }
-
-    private static List<Integer> read(Row row) {
-        List<Integer> values = new ArrayList<>();
-        for (int i = 0; i < 100; i++) {
-            int value = row.at(i);
-            if (value == NONE) {
-                break;
-            }
-            values.add(value);
-        }
-        return values;
-    }
-
-    // A row is read up to the first NONE; a due value of -7 or the like is no end.
-    private static void row(String what, Row row, int... due) {
-        same(what, read(row), Arrays.stream(due).boxed().toList());
-    }
-
-    private static void repeat(int times, Runnable step) {
-        for (int i = 0; i < times; i++) {
-            step.run();
-        }
-    }
-
-    private static void same(String what, Object got, Object want) {
-        if (!got.equals(want)) {
-            wrong++;
-            System.out.println("promise " + promise + ": " + what + ": " + got + ", due is " + want);
-        }
+        full.clear();
+        full.clear();
+        same("the first handle", full.alloc(10), 1);
+        first("kind where references were", slot -> full.kind(1, slot), 0, 0, 0, 0, 0, 0, 0, 0, 0, 0);
     }
 }
